@@ -70,7 +70,7 @@ public final class PromiseTest {
         promise = 30; copy();
         promise = 31; writeEnd();
         promise = 32; count();
-        promise = 33; digest();
+        promise = 33; digest(); openIsNever();
         System.out.println(wrong == 0 ? checks + " answers are as due" : wrong + " of " + checks + " answers are not as due");
         if (wrong != 0) {
             System.exit(1);
@@ -266,8 +266,10 @@ public final class PromiseTest {
         due("an empty one", x.read(0), 0);
         x.sheet(0, 2, 5);
         due("none whole", x.read(0), 0);
-        fill(x, 0, 0, 1, -1, 3, 2, 99, 50, 4, 4, 5, 0, 1, 2, 1, 0, 3, 0, 1);
-        due("bytes", x.read(0), 2);
+        fill(x, 0, 0, 1, -1, 3, 2, 99, 50);
+        due("bytes", x.read(0), 1);
+        fill(x, 0, 0, 4, 4, 5, 0, 1, 2, 1, 0, 3, 0, 1);
+        due("bytes, and some more", x.read(0), 1);
         due("nobody is named", x.bargainIs(0, 1), NONE);
         due("its SORT", x.bargainIs(0, 3), 2);
         due("its WORTH", x.bargainIs(0, 4), 99);
@@ -963,6 +965,11 @@ public final class PromiseTest {
         y.after(0, 0, 65, 1, 105);
         write(y, 1, "a=20;t=5");
         due("of like ones the least", y.turned(0), 8);
+        y.bargain(1, 0, 3, 0, 105, 65);
+        y.after(1, 0, 80, 1, 110);
+        write(y, 0, "a=0;b=2;w=1;t=0");
+        write(y, 1, "a=20;b=2;w=0;t=9");
+        due("t does not help, where it is ENDED", y.turned(1), 16);
         due("bargain 9", x.turned(9), BAD);
         due("bargain -1", x.turned(-1), BAD);
     }
@@ -1005,6 +1012,8 @@ public final class PromiseTest {
         due("by both LAWS", x.letter(0, 1, 64 + 1, 1), NONE);
         write(x, 1, "t=1");
         due("500 and a hundredth", x.letter(0, 1, 64 + 1, 1), 500);
+        write(x, 0, "t=0");
+        due("by both LAWS", x.letter(0, 1, 64 + 1, 1), NONE);
         write(x, 0, "t=99");
         write(x, 1, "t=99");
         due("95 by 50 and 99 hundredths", x.letter(0, 1, 1, 1), 50);
@@ -1021,11 +1030,23 @@ public final class PromiseTest {
         y.bargain(1, 0, 3, 2, 0, 10);
         y.bargain(1, 0, 3, 3, 0, 10);
         due("no SORT is left", y.letter(0, 1, 0, 0), NONE);
-        due("two SORTS", y.letter(0, 1, 9, 0), 9);
-        for (int i = 0; i < 8; i++) {
-            y.leave(0, 5, 1, 0, 1, 60, 0, 99);
+        for (int set = 1; set < 16; set++) {
+            due("SORTS " + set, y.letter(0, 1, set, 0), set);
         }
-        for (int i = 0; i < 4; i++) {
+        y.leave(0, 0, 1, 0, 1, 60, 0, 99);
+        write(y, 0, "b=0");
+        y.back(0, 5, 4, 100);
+        due("bound by LAW 1 alone, not in the set", y.letter(0, 1, 8, 0), NONE);
+        due("bound by LAW 1 alone, in the set", y.letter(0, 1, 9, 0), 9);
+        write(y, 1, "b=0");
+        write(y, 0, "b=1");
+        due("bound by LAW 0 alone, not in the set", y.letter(0, 1, 8, 0), NONE);
+        due("bound by LAW 0 alone, in the set", y.letter(0, 1, 9, 0), 9);
+        write(y, 1, "b=1");
+        due("bound by both", y.letter(0, 1, 9, 0), 8);
+        write(y, 0, "b=0");
+        write(y, 1, "b=0");
+        for (int i = 0; i < 11; i++) {
             y.leave(0, 5, 1, 0, 1, 60, 0, 99);
         }
         due("behind twelve others", y.letter(0, 1, 9, 0), 9);
@@ -1037,8 +1058,10 @@ public final class PromiseTest {
         due("sixty", x.sheet(3, 1, 60), 60);
         due("its last", x.get(3, 1, 59), 0);
         x.lay(3, 1, 59, 7);
+        x.lay(3, 1, 0, 7);
         due("anew", x.sheet(3, 1, 60), 60);
         due("its last anew", x.get(3, 1, 59), 0);
+        due("its first anew", x.get(3, 1, 0), 0);
         due("of another TYPE", x.sheet(3, 2, 5), 5);
         due("its TYPE", x.get(3, 1, 0), LEAST);
         due("its fifth", x.get(3, 2, 4), 0);
@@ -1239,6 +1262,40 @@ public final class PromiseTest {
         due("of a fuller one", before, digestByCalls(x));
         x.lose(0);
         due("FINDINGS change it not", x.digest(), before);
+    }
+
+    /** With a BACK that is OPEN each call answers as if it were never heard. */
+    private static void openIsNever() {
+        long[] never = answersWith(100);
+        long[] open = answersWith(-1);
+        long[] heard = answersWith(10);
+        boolean heardMatters = true;
+        for (int i = 0; i < never.length; i++) {
+            promise = (int) (never[i] >> 32 & 63);
+            due("with an OPEN hearing", open[i], never[i]);
+            heardMatters &= heard[i] != never[i];
+        }
+        due("with a hearing they answer otherwise", heardMatters ? 1 : 0, 1);
+    }
+
+    private static long[] answersWith(int hearing) {
+        WhoseName x = new WhoseName();
+        x.leave(0, 0, 1, 1, 15, 50, 0, 99);
+        x.back(0, 10, 1, hearing);
+        x.bargain(1, 0, 3, 0, 55, 50);
+        write(x, 0, "t=10");
+        write(x, 1, "t=10;b=2");
+        int[] promises = {15, 15, 16, 16, 18, 19, 20, 24, 25};
+        int[] answers = {
+            x.reaches(0, 0, 0, 0), x.reaches(0, 0, 0, 1), x.bound(0, 0, 0), x.bound(0, 0, 1), x.ask(0, 0, 0),
+            x.owes(0, 0), x.end(0, 0, 0), x.turned(0), x.letter(0, 1, 1, 1),
+        };
+        long[] all = new long[answers.length];
+        for (int i = 0; i < all.length; i++) {
+            all[i] = (long) promises[i] << 32 | answers[i] & 0xffffffffL;
+        }
+        due("digest() by calls", x.digest(), digestByCalls(x));
+        return all;
     }
 
     private static long digestByCalls(WhoseName x) {
