@@ -638,6 +638,11 @@ public final class PromiseTest {
         for (int i = 0; i < 10; i++) {
             x.bargain(1, i == 8 ? NONE : i == 9 ? 1 : 0, 3, 0, 50, 50);
         }
+        WhoseName y = new WhoseName();
+        y.bargain(1, 0, 3, 0, 50, 50);
+        y.after(0, 0, 50, 0, 50);
+        y.after(0, 0, 50, 1, 50);
+        due("the first thing said is not", y.bound(0, 0, 1), NONE);
         x.after(0, 0, 60, 1, 50);
         due("on the last day", x.bound(0, 0, 1), 20);
         due("its bits", x.bound(0, 0, 0), 1);
@@ -970,6 +975,15 @@ public final class PromiseTest {
         write(y, 0, "a=0;b=2;w=1;t=0");
         write(y, 1, "a=20;b=2;w=0;t=9");
         due("t does not help, where it is ENDED", y.turned(1), 16);
+        WhoseName z = new WhoseName();
+        z.leave(1, 0, 1, 0, 1, 0, 0, 99);
+        z.bargain(1, 0, 3, 0, 66, 50);
+        z.after(0, 0, 50, 1, 10);
+        write(z, 0, "p=5");
+        write(z, 1, "p=6;t=10;w=0");
+        due("one letter goes ahead of two lesser ones", z.turned(0), 32);
+        write(z, 1, "p=6;t=10");
+        due("two letters", z.turned(0), 4 + 8);
         due("bargain 9", x.turned(9), BAD);
         due("bargain -1", x.turned(-1), BAD);
     }
@@ -1050,6 +1064,11 @@ public final class PromiseTest {
             y.leave(0, 5, 1, 0, 1, 60, 0, 99);
         }
         due("behind twelve others", y.letter(0, 1, 9, 0), 9);
+        due("bargain 0 is by others", y.letter(0, 2, 1, 0), BAD);
+        for (int i = 4; i < 10; i++) {
+            y.bargain(2, 0, 3, 0, 10 * i + 1, 10);
+        }
+        due("the last of ten", y.letter(0, 2, 1023 - 15, 1), 100);
     }
 
     private static void sheet() {
