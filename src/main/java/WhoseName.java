@@ -571,7 +571,7 @@ public final class WhoseName {
         if (told.hearing != OPEN) {
             return told.hearing;
         }
-        return hasBit(way, back) ? told.sent : NEVER;
+        return (way & 1 << back) != 0 ? told.sent : NEVER;
     }
 
     private boolean isEnded(int[] words, int leave, Bargain made, int way) {
