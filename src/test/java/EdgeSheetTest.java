@@ -243,7 +243,11 @@ public final class EdgeSheetTest {
                 row.does(8, "write", 0, 1).asks(-5, "get", 1, 2, n - 1).asks(-5, "get", 1, 2, 8).does(n, "lose", 1);
             }
         }
-        s.asks(828, "count", 7);
+        Story stands = s.again().does(8, "sheet", 1, 2, 8).does(8, "write", 0, 1).does(8, "write", 0, 1).items(1, 2, java.util.Arrays.copyOf(ends, 8));
+        for (int p = 0; p < 8; p++) {
+            stands.does(purses[p], "purse", p, purses[p]);
+        }
+        stands.asks(828, "count", 7);
         Story.sentence("how many. BAD; NULL.");
         Story world = Story.world();
         world.again().refuses(NULL, "write", 0, 3).refuses(NULL, "write", 1, 3);

@@ -167,8 +167,8 @@ public final class EdgeTermsTest {
         Story.sentence("LEAVES, 12 at most");
         manyLeaves(10).does(10, "leave", 0, 0, 1, 0, 1, 1, 0, 0).asks(11, "count", 0);
         Story s = manyLeaves(11).refuses(BAD, "leaveIs", 11, 0).does(11, "leave", 0, 0, 1, 0, 1, 1, 0, 0).asks(12, "count", 0);
-        s.refuses(FULL, "leave", 0, 0, 1, 0, 1, 1, 0, 0).refuses(FULL, "leave", 1, 0, 1, 0, 1, 1, 0, 0);
-        s.refuses(FULL, "leave", 2, 0, 1, 4, 1, 1, 0, 0).refuses(FULL, "leave", 3, 0, 2, 0, 1, 1, 0, 0);
+        s.refuses(FULL, "leave", 0, 7, 2, 1, 15, 999, 99, 99).refuses(FULL, "leave", 1, 7, 2, 0, 15, 999, 99, 99);
+        s.refuses(FULL, "leave", 2, 7, 2, 4, 15, 999, 99, 99).refuses(FULL, "leave", 3, 1, 2, 1, 15, 999, 99, 99);
         s.asks(12, "count", 0).asks(1, "leaveIs", 11, 5).refuses(BAD, "leaveIs", 12, 0);
         Story.sentence("BAD: also to who gave it; FULL.");
         s.refuses(BAD, "leave", 0, 1, 1, 0, 1, 1, 0, 0).refuses(BAD, "leave", 3, 0, 1, 0, 1, 1, 0, 0);
