@@ -565,6 +565,9 @@ public final class EdgeTermsTest {
         s.law(1, "b=1;s=1;p=1;t=1;a=1;w=1;n=1;o=1;c=1;b=0;s=0;p=0;t=0;a=0;c=09").does(60, "wipe", 1);
         s.asks(NONE, "fault", 1).asks(1, "law", 1, 0).asks(1, "law", 1, 8).asks(0, "count", 6);
         s.refuses(BAD, "wipe", 2).refuses(BAD, "wipe", -1);
+        text("p=55").law(0, "p=5").asks(5, "law", 0, 2).asks(NONE, "fault", 0);
+        text("b=1;s=0").law(0, "b=1;").asks(4, "fault", 0).law(0, "b").asks(1, "fault", 0).law(0, "b=").asks(2, "fault", 0);
+        text("b=x").law(0, "b=1").asks(NONE, "fault", 0).law(0, "").asks(NONE, "fault", 0).asks(0, "count", 5);
     }
 
     private static void reading() {
