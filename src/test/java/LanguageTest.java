@@ -26,6 +26,8 @@ import java.lang.reflect.Constructor;
 import java.lang.reflect.Field;
 import java.lang.reflect.Method;
 import java.lang.reflect.Modifier;
+import java.nio.file.Files;
+import java.nio.file.Path;
 import java.util.Arrays;
 import java.util.HashSet;
 import java.util.List;
@@ -33,6 +35,8 @@ import java.util.Map;
 import java.util.Set;
 import java.util.TreeMap;
 import java.util.TreeSet;
+import java.util.regex.Matcher;
+import java.util.regex.Pattern;
 import javax.tools.JavaCompiler;
 import javax.tools.StandardJavaFileManager;
 import javax.tools.ToolProvider;
@@ -40,6 +44,7 @@ import javax.tools.ToolProvider;
 /** The rules of LANGUAGE.md that can be read off the source, and the document's face. */
 public final class LanguageTest {
     private static final String SOURCE = "src/main/java/WhoseName.java";
+    private static final Path DOCUMENT = Path.of("..", "shared", "DOC.md");
     private static final String[] FACE = {
         "purse 2", "leave 8", "back 4", "heard 2", "bargain 6", "read 1", "after 5", "leaveIs 2", "bargainIs 2",
         "type 2", "wipe 1", "fault 1", "law 2", "reaches 4", "bound 3", "till 2", "ask 3", "owes 2", "end 3",
@@ -58,6 +63,7 @@ public final class LanguageTest {
 
     public static void main(String[] args) throws Exception {
         face();
+        faceAsWritten();
         source();
         System.out.println(wrong == 0 ? "the rules are kept" : wrong + " breaches");
         if (wrong != 0) {
@@ -101,6 +107,52 @@ public final class LanguageTest {
             if (!Modifier.isStatic(c.getModifiers())) {
                 refuse(2, c.getName());
             }
+        }
+    }
+
+    /** The document's lines, in its order, each heading ahead of the calls that it names. */
+    private static void faceAsWritten() throws Exception {
+        if (!Files.exists(DOCUMENT)) {
+            return;
+        }
+        String document = Files.readString(DOCUMENT);
+        String source = Files.readString(Path.of(SOURCE));
+        Map<String, Integer> places = new TreeMap<>();
+        int last = -1;
+        for (String line : document.substring(document.indexOf("```java"), document.indexOf("## Terms")).split("\n")) {
+            if (!line.contains("public ")) {
+                continue;
+            }
+            boolean isCall = line.endsWith(");");
+            int at = source.indexOf(isCall ? line.substring(0, line.length() - 1) + " {" : line);
+            if (at < 0 || at < last) {
+                refuse(1, "not there, or not in this order: " + line);
+            }
+            last = at;
+            if (isCall) {
+                String head = line.substring(0, line.indexOf('('));
+                places.put(head.substring(head.lastIndexOf(' ') + 1), at);
+            }
+        }
+        headings(document, source, places);
+    }
+
+    private static void headings(String document, String source, Map<String, Integer> places) {
+        Matcher told = Pattern.compile("Ahead of the calls (.*) the interface says: (---- .*)\\.").matcher(document);
+        int headings = 0;
+        while (told.find()) {
+            headings++;
+            int at = source.indexOf("    // " + told.group(2) + "\n");
+            int next = source.indexOf("    // ---- ", at + 1);
+            for (String name : told.group(1).replace("`", "").split(", ")) {
+                int place = places.getOrDefault(name, -1);
+                if (at < 0 || place < at || place > next) {
+                    refuse(1, name + " does not stand behind " + told.group(2));
+                }
+            }
+        }
+        if (headings != 6 || places.size() != FACE.length + 1) {
+            refuse(1, headings + " headings, " + places.size() + " calls and constructors in the document");
         }
     }
 
